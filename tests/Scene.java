@@ -1,0 +1,90 @@
+import java.util.Arrays;
+import java.util.NoSuchElementException;
+
+/** Makes halls with wanted hands: it looks for a seed, by a shuffle of its own, that deals them. */
+final class Scene {
+    private static final int MOST_SEEDS = 20_000_000;
+
+    private Scene() {
+    }
+
+    /** A hall with the rules told, a match begun, and a round dealt in which the players have just these hands. */
+    static Bonehall dealt(String rules, int highest, int[]... hands) {
+        Bonehall hall = begun(rules, highest, hands.length, hands[0].length);
+        hall.deal(seedFor(highest, hands));
+        for (int player = 0; player < hands.length; player++) {
+            for (int index = 0; index < hands[player].length; index++) {
+                Check.due("hand " + player + " of the scene", hands[player][index], hall.handAt(player, index));
+            }
+        }
+        return hall;
+    }
+
+    static Bonehall begun(String rules, int highest, int players, int hand) {
+        Bonehall hall = new Bonehall();
+        for (char letter : rules.toCharArray()) {
+            hall.rule(letter, true);
+        }
+        hall.begin(highest, players, hand);
+        return hall;
+    }
+
+    static int seedFor(int highest, int[]... hands) {
+        int[] at = new int[(highest + 1) * (highest + 2) / 2];
+        Arrays.fill(at, -1);
+        for (int player = 0; player < hands.length; player++) {
+            for (int bone : hands[player]) {
+                at[bone] = player;
+            }
+        }
+        for (int seed = 0; seed < MOST_SEEDS; seed++) {
+            int[] row = shuffled(at.length, seed);
+            boolean isIt = true;
+            for (int place = 0; place < hands.length * hands[0].length && isIt; place++) {
+                isIt = at[row[place]] == place / hands[0].length;
+            }
+            if (isIt) {
+                return seed;
+            }
+        }
+        throw new IllegalStateException("no seed deals this");
+    }
+
+    static int[] shuffled(int bones, int seed) {
+        int[] row = new int[bones];
+        for (int i = 0; i < bones; i++) {
+            row[i] = i;
+        }
+        int z = seed;
+        for (int place = bones - 1; place > 0; place--) {
+            z = (int) (z * 1103515245L + 12345L);
+            int other = (int) ((z & 0xffffffffL) / 65536 % (place + 1));
+            int kept = row[other];
+            row[other] = row[place];
+            row[place] = kept;
+        }
+        return row;
+    }
+
+    /** Some twenty calls that tell nearly all of the state. */
+    static String look(Bonehall hall) {
+        StringBuilder text = new StringBuilder();
+        text.append(hall.checksum()).append(' ').append(hall.yard()).append(' ').append(hall.laid()).append(' ');
+        text.append(hall.ends()).append(' ').append(hall.sum()).append(' ').append(hall.found()).append(' ');
+        text.append(hall.rounds()).append(' ').append(hall.rows()).append(' ').append(hall.rings()).append(' ');
+        try {
+            text.append("winner ").append(hall.winner()).append(' ');
+        } catch (NoSuchElementException e) {
+            text.append("no winner ");
+        }
+        try {
+            text.append("turn ").append(hall.turn()).append(' ');
+            for (int player = 0; player < 2; player++) {
+                text.append(hall.deals(player)).append(' ');
+            }
+        } catch (IllegalStateException e) {
+            text.append("no round ");
+        }
+        return text.append(hall.isSound()).toString();
+    }
+}
