@@ -3,15 +3,20 @@ import java.util.NoSuchElementException;
 
 /** Makes halls with wanted hands: it looks for a seed, by a shuffle of its own, that deals them. */
 final class Scene {
-    private static final int MOST_SEEDS = 20_000_000;
+    private static final int MOST_SEEDS = 2_000_000;
 
     private Scene() {
     }
 
     /** A hall with the rules told, a match begun, and a round dealt in which the players have just these hands. */
     static Bonehall dealt(String rules, int highest, int[]... hands) {
+        return dealtBy(seedFor(highest, hands), rules, highest, hands);
+    }
+
+    /** The same, where the seed is known already since looking for it takes long. */
+    static Bonehall dealtBy(int seed, String rules, int highest, int[]... hands) {
         Bonehall hall = begun(rules, highest, hands.length, hands[0].length);
-        hall.deal(seedFor(highest, hands));
+        hall.deal(seed);
         for (int player = 0; player < hands.length; player++) {
             for (int index = 0; index < hands[player].length; index++) {
                 Check.due("hand " + player + " of the scene", hands[player][index], hall.handAt(player, index));
@@ -30,6 +35,11 @@ final class Scene {
     }
 
     static int seedFor(int highest, int[]... hands) {
+        return seedForYard(new int[0], highest, hands);
+    }
+
+    /** A seed that deals these hands, with these bones as the first ones of the boneyard. */
+    static int seedForYard(int[] yard, int highest, int[]... hands) {
         int[] at = new int[(highest + 1) * (highest + 2) / 2];
         Arrays.fill(at, -1);
         for (int player = 0; player < hands.length; player++) {
@@ -37,11 +47,15 @@ final class Scene {
                 at[bone] = player;
             }
         }
+        int dealt = hands.length * hands[0].length;
         for (int seed = 0; seed < MOST_SEEDS; seed++) {
             int[] row = shuffled(at.length, seed);
             boolean isIt = true;
-            for (int place = 0; place < hands.length * hands[0].length && isIt; place++) {
+            for (int place = 0; place < dealt && isIt; place++) {
                 isIt = at[row[place]] == place / hands[0].length;
+            }
+            for (int place = 0; place < yard.length && isIt; place++) {
+                isIt = row[dealt + place] == yard[place];
             }
             if (isIt) {
                 return seed;
