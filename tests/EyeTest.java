@@ -101,6 +101,19 @@ public final class EyeTest {
         Check.refuses("a laid bone", UNSUPPORTED, hall, () -> hall.chance(1, 0, 9));
         Check.refuses("a laid bone of the same", ILLEGAL, hall, () -> hall.chance(1, 1, 9));
         Check.due("1 of 7", 1.0 / 7.0, hall.chance(1, 0, 0));
+        voidOfNought();
+    }
+
+    /** Player 1 is known to have no 0, so that no bone with one is there, the bone 0 neither. */
+    private static void voidOfNought() {
+        Bonehall nought = Scene.dealt("", 3, new int[] {2, 9}, new int[] {4, 5});
+        nought.play(2, 0);
+        Check.due("12 at 0 2", 0, nought.play(5, 1));
+        Check.due("33 at 0 1", 1, nought.pass());
+        Check.due("00 with player 0", 0.0, nought.chance(1, 0, 0));
+        Check.due("03 with player 0", 0.0, nought.chance(1, 0, 3));
+        Check.due("22, 23 or 33", 3L, nought.deals(1));
+        Check.due("33 with player 0", 1.0 / 3.0, nought.chance(1, 0, 9));
     }
 
     /** Player 1 passes falsely at 0 1 and at 0 2, so that 33 alone is left, and that is with player 0. */

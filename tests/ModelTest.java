@@ -120,6 +120,9 @@ public final class ModelTest {
     }
 
     private int number(int bound) {
+        if (random.nextInt(150) == 0) {
+            return random.nextBoolean() ? Integer.MIN_VALUE + random.nextInt(3) : Integer.MAX_VALUE - random.nextInt(3);
+        }
         return random.nextInt(12) == 0 ? -1 + random.nextInt(2) * (bound + 1) : random.nextInt(bound);
     }
 

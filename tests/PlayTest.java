@@ -256,6 +256,19 @@ public final class PlayTest {
         hall.pass();
         Check.refuses("after the round", STATE, hall, hall::isBlocked);
 
+        Bonehall last = Scene.dealt("", 3, new int[] {1, 2, 6, 8, 9}, new int[] {0, 3, 4, 5, 7});
+        last.play(1, 0);
+        last.play(4, 1);
+        last.play(6, 1);
+        last.play(3, 1);
+        last.play(2, 0);
+        last.play(5, 1);
+        Check.due("ends", 0, last.endAt(0) + last.endAt(1) - 1);
+        Check.due("00 alone fits", false, last.isBlocked());
+        last.pass();
+        last.play(0, 0);
+        Check.due("and then none", true, last.isBlocked());
+
         Bonehall yard = Scene.dealt("", 3, new int[] {0, 1}, new int[] {7, 9});
         yard.play(9, 0);
         Check.due("the boneyard counts", false, yard.isBlocked());
@@ -328,7 +341,18 @@ public final class PlayTest {
         Check.due("the last pass tells too", true, hall.isVoid(0, 3));
         hall.deal(4);
         Check.due("a new round", false, hall.isVoid(1, 3));
+        forgottenAtTheEnd();
         drawForgets();
+    }
+
+    private static void forgottenAtTheEnd() {
+        Bonehall hall = Scene.dealt("", 3, new int[] {0, 1}, new int[] {7, 9});
+        hall.play(9, 0);
+        hall.pass();
+        Check.due("3 is known", true, hall.isVoid(0, 3));
+        hall.close();
+        hall.begin(3, 2, 2);
+        Check.due("a new match", false, hall.isVoid(0, 3));
     }
 
     /** Bones of a set to four: 14 24 34 44 against 00 03 04 33. */

@@ -114,6 +114,13 @@ public final class TypedTest {
         Check.due("the kind is told by the first", 0, win(-1, "46 55 45 35"));
         Check.due("of the kind though lower", 3, win(2, "01 33 44 11"));
         Check.due("a low trump", 3, win(0, "66 56 46 01"));
+        Bonehall nine = Scene.begun("", 9, 2, 2);
+        Check.due("a low double is above 8 and 9 halves", 3,
+                nine.trick(-1, nine.bone(0, 1), nine.bone(1, 9), nine.bone(1, 8), nine.bone(1, 1)));
+        Check.due("the kind is the greater half", 0,
+                nine.trick(-1, nine.bone(1, 9), nine.bone(1, 8), nine.bone(8, 8), nine.bone(1, 1)));
+        Check.due("the lowest trump beats the highest double", 3,
+                nine.trick(0, nine.bone(8, 9), nine.bone(9, 9), nine.bone(7, 9), nine.bone(0, 1)));
     }
 
     private static void trickRefuses() {

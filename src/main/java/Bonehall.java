@@ -130,23 +130,17 @@ public final class Bonehall {
     }
 
     public int half(int bone, boolean isGreater) throws IndexOutOfBoundsException {
-        if (!set.has(bone)) {
-            throw new IndexOutOfBoundsException("no such bone");
-        }
+        mustBeBone(bone);
         return isGreater ? set.high(bone) : set.low(bone);
     }
 
     public int inHand(int player) throws IndexOutOfBoundsException {
-        if (!isPlayer(player)) {
-            throw new IndexOutOfBoundsException("no such player");
-        }
+        mustBePlayer(player);
         return handCount(player);
     }
 
     public int handAt(int player, int index) throws IndexOutOfBoundsException, NoSuchElementException {
-        if (!isPlayer(player)) {
-            throw new IndexOutOfBoundsException("no such player");
-        }
+        mustBePlayer(player);
         int bone = index < 0 ? -1 : boneOfHand(player, index);
         if (bone < 0) {
             throw new NoSuchElementException("no such bone in hand");
@@ -155,9 +149,7 @@ public final class Bonehall {
     }
 
     public int pips(int player) throws IndexOutOfBoundsException {
-        if (!isPlayer(player)) {
-            throw new IndexOutOfBoundsException("no such player");
-        }
+        mustBePlayer(player);
         return handPips(player);
     }
 
@@ -167,12 +159,9 @@ public final class Bonehall {
 
     public int give(int player, int bone)
             throws IndexOutOfBoundsException, IllegalStateException, UnsupportedOperationException {
-        if (!isPlayer(player) || !set.has(bone)) {
-            throw new IndexOutOfBoundsException("no such player or bone");
-        }
-        if (!isGoing) {
-            throw new IllegalStateException("no round goes on");
-        }
+        mustBePlayer(player);
+        mustBeBone(bone);
+        mustGoOn();
         int lowest = boneOfHand(player, 0);
         if (layout.count > 0 || places.of(bone) != IN_YARD || lowest < 0) {
             throw new UnsupportedOperationException("something is laid, or the bone is not in the boneyard");
@@ -183,9 +172,7 @@ public final class Bonehall {
     }
 
     public int turn() throws IllegalStateException {
-        if (!isGoing) {
-            throw new IllegalStateException("no round goes on");
-        }
+        mustGoOn();
         return mover;
     }
 
@@ -205,9 +192,7 @@ public final class Bonehall {
     }
 
     public int endAt(int end) throws IndexOutOfBoundsException {
-        if (!layout.hasEnd(end)) {
-            throw new IndexOutOfBoundsException("no such end");
-        }
+        mustBeEnd(end);
         return layout.valueOf(end);
     }
 
@@ -216,30 +201,21 @@ public final class Bonehall {
     }
 
     public boolean fits(int bone, int end) throws IndexOutOfBoundsException {
-        if (!set.has(bone) || !layout.hasEnd(end)) {
-            throw new IndexOutOfBoundsException("no such bone or end");
-        }
+        mustBeBone(bone);
+        mustBeEnd(end);
         return set.shows(bone, layout.valueOf(end));
     }
 
     public boolean canPlay(int player) throws IndexOutOfBoundsException, IllegalStateException {
-        if (!isPlayer(player)) {
-            throw new IndexOutOfBoundsException("no such player");
-        }
-        if (!isGoing) {
-            throw new IllegalStateException("no round goes on");
-        }
+        mustBePlayer(player);
+        mustGoOn();
         return hasPlay(player);
     }
 
     public int play(int bone, int end)
             throws IndexOutOfBoundsException, IllegalStateException, NoSuchElementException, UnsupportedOperationException {
-        if (!set.has(bone)) {
-            throw new IndexOutOfBoundsException("no such bone");
-        }
-        if (!isGoing) {
-            throw new IllegalStateException("no round goes on");
-        }
+        mustBeBone(bone);
+        mustGoOn();
         if (places.of(bone) != mover + 1) {
             throw new NoSuchElementException("not in the player's hand");
         }
@@ -260,9 +236,7 @@ public final class Bonehall {
     }
 
     public int draw() throws IllegalStateException, UnsupportedOperationException {
-        if (!isGoing) {
-            throw new IllegalStateException("no round goes on");
-        }
+        mustGoOn();
         if (!mayDraw()) {
             throw new UnsupportedOperationException("nothing to be drawn");
         }
@@ -273,9 +247,7 @@ public final class Bonehall {
     }
 
     public int pass() throws IllegalStateException, UnsupportedOperationException {
-        if (!isGoing) {
-            throw new IllegalStateException("no round goes on");
-        }
+        mustGoOn();
         boolean could = hasPlay(mover);
         if ((could && !holds(FREE_PASS)) || mayDraw()) {
             throw new UnsupportedOperationException("can play, or could draw");
@@ -291,9 +263,7 @@ public final class Bonehall {
     }
 
     public boolean isBlocked() throws IllegalStateException, UnsupportedOperationException {
-        if (!isGoing) {
-            throw new IllegalStateException("no round goes on");
-        }
+        mustGoOn();
         if (layout.count == 0) {
             throw new UnsupportedOperationException("nothing is laid");
         }
@@ -321,9 +291,7 @@ public final class Bonehall {
     }
 
     public boolean isVoid(int player, int value) throws IndexOutOfBoundsException, IllegalArgumentException {
-        if (!isPlayer(player)) {
-            throw new IndexOutOfBoundsException("no such player");
-        }
+        mustBePlayer(player);
         if (!set.hasValue(value)) {
             throw new IllegalArgumentException("no such value");
         }
@@ -335,26 +303,20 @@ public final class Bonehall {
     }
 
     public long deals(int player) throws IndexOutOfBoundsException, IllegalStateException {
-        if (!isPlayer(player)) {
-            throw new IndexOutOfBoundsException("no such player");
-        }
-        if (!isGoing) {
-            throw new IllegalStateException("no round goes on");
-        }
+        mustBePlayer(player);
+        mustGoOn();
         return countDeals(player, -1, -1);
     }
 
     public double chance(int player, int other, int bone)
             throws IndexOutOfBoundsException, IllegalArgumentException, IllegalStateException, UnsupportedOperationException, ArithmeticException {
-        if (!isPlayer(player) || !isPlayer(other) || !set.has(bone)) {
-            throw new IndexOutOfBoundsException("no such player or bone");
-        }
+        mustBePlayer(player);
+        mustBePlayer(other);
+        mustBeBone(bone);
         if (player == other) {
             throw new IllegalArgumentException("both players are the same");
         }
-        if (!isGoing) {
-            throw new IllegalStateException("no round goes on");
-        }
+        mustGoOn();
         if (places.of(bone) == IS_LAID || places.of(bone) == player + 1) {
             throw new UnsupportedOperationException("the bone is seen");
         }
@@ -366,45 +328,31 @@ public final class Bonehall {
     }
 
     public int solve() throws IllegalStateException, UnsupportedOperationException {
-        if (!isGoing) {
-            throw new IllegalStateException("no round goes on");
-        }
-        if (!isSolvable()) {
-            throw new UnsupportedOperationException("no ending to be solved");
-        }
+        mustGoOn();
+        mustBeSolvable();
         readEnding();
         int worth = worth(ending, ending.allLeft(), layout.valueOf(0), layout.valueOf(1), mover, 0);
         return (mover & 1) == 0 ? worth : -worth;
     }
 
     public int bestBone() throws IllegalStateException, UnsupportedOperationException {
-        if (!isGoing) {
-            throw new IllegalStateException("no round goes on");
-        }
-        if (!isSolvable()) {
-            throw new UnsupportedOperationException("no ending to be solved");
-        }
+        mustGoOn();
+        mustBeSolvable();
         readEnding();
         int best = bestPlay(ending, layout.valueOf(0), layout.valueOf(1), mover);
         return best < 0 ? -1 : ending.numberOf(best >> 1);
     }
 
     public int bestEnd() throws IllegalStateException, UnsupportedOperationException {
-        if (!isGoing) {
-            throw new IllegalStateException("no round goes on");
-        }
-        if (!isSolvable()) {
-            throw new UnsupportedOperationException("no ending to be solved");
-        }
+        mustGoOn();
+        mustBeSolvable();
         readEnding();
         int best = bestPlay(ending, layout.valueOf(0), layout.valueOf(1), mover);
         return best < 0 ? -1 : best & 1;
     }
 
     public int type(int bone) throws IndexOutOfBoundsException, UnsupportedOperationException, IllegalStateException {
-        if (!set.has(bone)) {
-            throw new IndexOutOfBoundsException("no such bone");
-        }
+        mustBeBone(bone);
         if (typed.has(bone)) {
             throw new UnsupportedOperationException("it is typed");
         }
@@ -435,9 +383,10 @@ public final class Bonehall {
 
     public int trick(int trump, int one, int two, int three, int four)
             throws IndexOutOfBoundsException, IllegalArgumentException {
-        if (!set.has(one) || !set.has(two) || !set.has(three) || !set.has(four)) {
-            throw new IndexOutOfBoundsException("no such bone");
-        }
+        mustBeBone(one);
+        mustBeBone(two);
+        mustBeBone(three);
+        mustBeBone(four);
         boolean isTwice = one == two || one == three || one == four || two == three || two == four || three == four;
         if ((trump != -1 && !set.hasValue(trump)) || isTwice) {
             throw new IllegalArgumentException("no such trump, or a bone twice");
@@ -504,12 +453,38 @@ public final class Bonehall {
         return number >= least && number <= most;
     }
 
-    private boolean holds(int rule) {
-        return (rules & rule) != 0;
+    private void mustBePlayer(int player) {
+        if (player < 0 || player >= players) {
+            throw new IndexOutOfBoundsException("no such player");
+        }
     }
 
-    private boolean isPlayer(int player) {
-        return player >= 0 && player < players;
+    private void mustBeBone(int bone) {
+        if (!set.has(bone)) {
+            throw new IndexOutOfBoundsException("no such bone");
+        }
+    }
+
+    private void mustBeEnd(int end) {
+        if (!layout.hasEnd(end)) {
+            throw new IndexOutOfBoundsException("no such open end");
+        }
+    }
+
+    private void mustGoOn() {
+        if (!isGoing) {
+            throw new IllegalStateException("no round goes on");
+        }
+    }
+
+    private void mustBeSolvable() {
+        if (!isSolvable()) {
+            throw new UnsupportedOperationException("no ending to be solved");
+        }
+    }
+
+    private boolean holds(int rule) {
+        return (rules & rule) != 0;
     }
 
     private int sideCount() {
@@ -755,21 +730,26 @@ public final class Bonehall {
         for (int index = 0; index < ending.count; index++) {
             for (int end = 0; end < 2 && ending.canMove(left, index, mover); end++) {
                 int at = end == 0 ? one : two;
-                int kept = end == 0 ? two : one;
-                int after = left & ~(1 << index);
-                // A like second end leads to nothing new.
-                if (!ending.shows(index, at) || (end == 1 && one == two)) {
-                    continue;
-                }
-                int got = ending.isOut(after, mover) ? ending.worthOfWin(after, mover)
-                        : worth(ending, after, kept, ending.otherHalf(index, at), ending.playerAfter(mover), depth + 1);
-                if (!isKnown || (isFirstSide ? got > best : got < best)) {
-                    best = got;
-                    isKnown = true;
+                if (ending.shows(index, at)) {
+                    int got = worthAfter(ending, left, index, at, end == 0 ? two : one, depth + 1);
+                    if (!isKnown || (isFirstSide ? got > best : got < best)) {
+                        best = got;
+                        isKnown = true;
+                    }
                 }
             }
         }
         return best;
+    }
+
+    /** The same, after the bone of this index was played at one value, so that the other one is kept. */
+    private static int worthAfter(Ending ending, int left, int index, int at, int kept, int depth) {
+        int after = left & ~(1 << index);
+        int player = ending.ownerOf(index);
+        if (ending.isOut(after, player)) {
+            return ending.worthOfWin(after, player);
+        }
+        return worth(ending, after, kept, ending.otherHalf(index, at), ending.playerAfter(player), depth);
     }
 
     /** Twice the index of the best bone, and one more for the end 1; -1 if the player can play none. */
@@ -780,17 +760,13 @@ public final class Bonehall {
         for (int index = 0; index < ending.count; index++) {
             for (int end = 0; end < 2 && ending.canMove(left, index, player); end++) {
                 int at = end == 0 ? one : two;
-                int kept = end == 0 ? two : one;
-                int after = left & ~(1 << index);
-                if (!ending.shows(index, at)) {
-                    continue;
-                }
-                int got = ending.isOut(after, player) ? ending.worthOfWin(after, player)
-                        : worth(ending, after, kept, ending.otherHalf(index, at), ending.playerAfter(player), 1);
-                int own = (player & 1) == 0 ? got : -got;
-                if (best < 0 || own > most) {
-                    best = index * 2 + end;
-                    most = own;
+                if (ending.shows(index, at)) {
+                    int got = worthAfter(ending, left, index, at, end == 0 ? two : one, 1);
+                    int own = (player & 1) == 0 ? got : -got;
+                    if (best < 0 || own > most) {
+                        best = index * 2 + end;
+                        most = own;
+                    }
                 }
             }
         }
@@ -1231,14 +1207,11 @@ public final class Bonehall {
         void openStates() {
             second = needs[1] + 1;
             third = needs[2] + 1;
-            for (int state = 0; state <= lastState() && state < MOST_STATES; state++) {
+            int last = stateOf(needs[0], needs[1], needs[2]);
+            for (int state = 0; state <= last && state < MOST_STATES; state++) {
                 ways[state] = 0;
             }
             ways[0] = 1;
-        }
-
-        int lastState() {
-            return stateOf(needs[0], needs[1], needs[2]);
         }
 
         int stateOf(int one, int two, int three) {
@@ -1344,6 +1317,10 @@ public final class Bonehall {
 
         int numberOf(int index) {
             return index >= 0 && index < count ? numbers[index] : -1;
+        }
+
+        int ownerOf(int index) {
+            return index >= 0 && index < count ? owners[index] : -1;
         }
 
         boolean isLeft(int left, int index) {
