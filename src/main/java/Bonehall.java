@@ -213,7 +213,8 @@ public final class Bonehall {
     }
 
     public int play(int bone, int end)
-            throws IndexOutOfBoundsException, IllegalStateException, NoSuchElementException, UnsupportedOperationException {
+            throws IndexOutOfBoundsException, IllegalStateException, NoSuchElementException,
+            UnsupportedOperationException {
         mustBeBone(bone);
         mustGoOn();
         if (places.of(bone) != mover + 1) {
@@ -309,7 +310,8 @@ public final class Bonehall {
     }
 
     public double chance(int player, int other, int bone)
-            throws IndexOutOfBoundsException, IllegalArgumentException, IllegalStateException, UnsupportedOperationException, ArithmeticException {
+            throws IndexOutOfBoundsException, IllegalArgumentException, IllegalStateException,
+            UnsupportedOperationException, ArithmeticException {
         mustBePlayer(player);
         mustBePlayer(other);
         mustBeBone(bone);
@@ -718,7 +720,7 @@ public final class Bonehall {
         }
     }
 
-    /** What the side 0 gets, less what the side 1 gets, if the player is next and both sides play as is best for them. */
+    /** What the side 0 gets, less what the side 1 gets, if the player is next and both sides play their best. */
     private static int worth(Ending ending, int left, int one, int two, int player, int depth) {
         int mover = ending.nextWhoCan(left, one, two, player);
         if (mover < 0 || depth > MOST_SOLVED) {
