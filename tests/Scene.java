@@ -80,6 +80,32 @@ final class Scene {
         return row;
     }
 
+    /** Plays a bone, by the rule 'r' with a pass of each one whose turn it is before. */
+    static int lay(Bonehall hall, int bone, int end) {
+        for (int times = 0; times < 4 && !holds(hall, hall.turn(), bone); times++) {
+            hall.pass();
+        }
+        return hall.play(bone, end);
+    }
+
+    static boolean holds(Bonehall hall, int player, int bone) {
+        for (int index = 0; index < hall.inHand(player); index++) {
+            if (hall.handAt(player, index) == bone) {
+                return true;
+            }
+        }
+        return false;
+    }
+
+    /** The values of the open ends, as digits. */
+    static String ends(Bonehall hall) {
+        StringBuilder text = new StringBuilder();
+        for (int end = 0; end < hall.ends(); end++) {
+            text.append(hall.endAt(end));
+        }
+        return text.toString();
+    }
+
     /** Some twenty calls that tell nearly all of the state. */
     static String look(Bonehall hall) {
         StringBuilder text = new StringBuilder();
