@@ -9,6 +9,9 @@ public final class KnowledgeEdgeTest {
     private static final Class<UnsupportedOperationException> UNSUPPORTED = UnsupportedOperationException.class;
     private static final Class<ArithmeticException> ARITHMETIC = ArithmeticException.class;
 
+    /** The bit of each value of the bones 00 01 02 03 11 12 13 22 23 33. */
+    private static final int[] VALUES = {1, 3, 5, 9, 2, 6, 10, 4, 12, 8};
+
     public static void main(String[] args) {
         knownByAPass();
         knownOfThen();
@@ -370,8 +373,9 @@ public final class KnowledgeEdgeTest {
                 step(hall, seed + step);
             }
             if (isGoing(hall)) {
+                Seen seen = new Seen(hall, players);
                 for (int player = 0; player < players; player++) {
-                    restricted += compareDeals(hall, players, player);
+                    restricted += compareDeals(hall, seen, player);
                 }
             }
         }
@@ -405,28 +409,13 @@ public final class KnowledgeEdgeTest {
     }
 
     /** 1 if what is known bars some deal. */
-    private static int compareDeals(Bonehall hall, int players, int eye) {
-        List<Integer> unseen = new ArrayList<>();
-        for (int bone = 0; bone < 10; bone++) {
-            boolean isLaid = false;
-            for (int index = 0; index < hall.laid(); index++) {
-                isLaid |= hall.laidAt(index) == bone;
-            }
-            if (!isLaid && !Scene.holds(hall, eye, bone)) {
-                unseen.add(bone);
-            }
-        }
-        int[] room = new int[players + 1];
-        for (int player = 0; player < players; player++) {
-            room[player] = player == eye ? 0 : hall.inHand(player);
-        }
-        room[players] = hall.yard();
-        long[][] held = new long[players][10];
-        long free = count(hall, unseen, 0, room.clone(), new int[10], null, false);
-        long all = count(hall, unseen, 0, room, new int[10], held, true);
+    private static int compareDeals(Bonehall hall, Seen seen, int eye) {
+        long[][] held = new long[seen.players][10];
+        long free = seen.count(eye, null);
+        long all = seen.count(eye, held);
         Check.due("deals", all, hall.deals(eye));
-        for (int other = 0; other < players; other++) {
-            for (int bone : unseen) {
+        for (int other = 0; other < seen.players; other++) {
+            for (int bone : seen.unseenBy(eye)) {
                 if (other != eye && all > 0) {
                     Check.due("chance", (double) held[other][bone] / all, hall.chance(eye, other, bone));
                 }
@@ -435,29 +424,69 @@ public final class KnowledgeEdgeTest {
         return free == all ? 0 : 1;
     }
 
-    private static long count(Bonehall hall, List<Integer> unseen, int from, int[] room, int[] at, long[][] held,
-            boolean isKnowing) {
-        if (from == unseen.size()) {
-            for (int bone : unseen) {
-                if (held != null && at[bone] < held.length) {
-                    held[at[bone]][bone]++;
+    /** What can be asked of a round in a set to three, read once. */
+    private static final class Seen {
+        final int players;
+        private final int[] owners;
+        private final int[] rooms;
+        private final int[] voids;
+        private final boolean[] laid = new boolean[10];
+
+        Seen(Bonehall hall, int players) {
+            this.players = players;
+            owners = Scene.owners(hall, 10, players);
+            rooms = new int[players + 1];
+            voids = new int[players + 1];
+            for (int index = 0; index < hall.laid(); index++) {
+                laid[hall.laidAt(index)] = true;
+            }
+            rooms[players] = hall.yard();
+            for (int player = 0; player < players; player++) {
+                rooms[player] = hall.inHand(player);
+                for (int value = 0; value <= 3; value++) {
+                    voids[player] |= hall.isVoid(player, value) ? 1 << value : 0;
                 }
             }
-            return 1;
         }
-        int bone = unseen.get(from);
-        long ways = 0;
-        for (int place = 0; place < room.length; place++) {
-            boolean isBarred = isKnowing && place < room.length - 1
-                    && (hall.isVoid(place, hall.half(bone, false)) || hall.isVoid(place, hall.half(bone, true)));
-            if (room[place] > 0 && !isBarred) {
-                room[place]--;
-                at[bone] = place;
-                ways += count(hall, unseen, from + 1, room, at, held, isKnowing);
-                room[place]++;
+
+        List<Integer> unseenBy(int eye) {
+            List<Integer> unseen = new ArrayList<>();
+            for (int bone = 0; bone < 10; bone++) {
+                if (!laid[bone] && owners[bone] != eye) {
+                    unseen.add(bone);
+                }
             }
+            return unseen;
         }
-        return ways;
+
+        /** All deals one by one; with a table, those alone that what is known allows, and who holds what in them. */
+        long count(int eye, long[][] held) {
+            int[] room = rooms.clone();
+            room[eye] = 0;
+            return count(unseenBy(eye), 0, room, new int[10], held);
+        }
+
+        private long count(List<Integer> unseen, int from, int[] room, int[] at, long[][] held) {
+            if (from == unseen.size()) {
+                for (int bone : unseen) {
+                    if (held != null && at[bone] < players) {
+                        held[at[bone]][bone]++;
+                    }
+                }
+                return 1;
+            }
+            int bone = unseen.get(from);
+            long ways = 0;
+            for (int place = 0; place < room.length; place++) {
+                if (room[place] > 0 && (held == null || (voids[place] & VALUES[bone]) == 0)) {
+                    room[place]--;
+                    at[bone] = place;
+                    ways += count(unseen, from + 1, room, at, held);
+                    room[place]++;
+                }
+            }
+            return ways;
+        }
     }
 
     /** 45 over 8, by 46 over 9, each times 37 over 9 and 28 over 9, all of it modulo 2 to the power of 64. */

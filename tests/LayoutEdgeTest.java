@@ -202,31 +202,42 @@ public final class LayoutEdgeTest {
         Check.part("promise 16: the most ends there can be");
         Bonehall hall = Scene.begun("rx", 9, 4, 9);
         hall.deal(4);
+        int[] owners = Scene.owners(hall, 55, 4);
         for (int value = 0; value <= 9; value++) {
-            fetch(hall, hall.bone(value, value));
-            fetch(hall, hall.bone(value, Math.min(value + 1, 9)));
+            fetch(hall, owners, hall.bone(value, value));
+            fetch(hall, owners, hall.bone(value, Math.min(value + 1, 9)));
         }
-        lay(hall, "00", 0);
+        layBy(hall, owners[0], 0, 0);
         for (int value = 1; value <= 9; value++) {
-            lay(hall, "" + (value - 1) + value, hall.ends() - 1);
+            int joint = hall.bone(value - 1, value);
+            layBy(hall, owners[joint], joint, hall.ends() - 1);
             Check.due("the last end", value, hall.endAt(hall.ends() - 1));
-            lay(hall, "" + value + value, hall.ends() - 1);
+            int twice = hall.bone(value, value);
+            layBy(hall, owners[twice], twice, hall.ends() - 1);
             Check.due("ends", 4 + 2 * value, hall.ends());
-            Check.due("99 alone of those with one bone at it counts", 2 * value, hall.sum());
+            Check.due("the last one alone of those with one bone at it counts", 2 * value, hall.sum());
         }
         Check.due("ends", "0001122334455667788999", Scene.ends(hall));
         Check.refuses("end 22", BOUNDS, hall, () -> hall.endAt(22));
         Check.due("sound", true, hall.isSound());
     }
 
+    private static void layBy(Bonehall hall, int owner, int bone, int end) {
+        int player = hall.turn();
+        for (int times = 0; times < 3 && player != owner; times++) {
+            player = hall.pass();
+        }
+        hall.play(bone, end);
+    }
+
     /** Gives the bone to a player whose lowest one is not among those that are laid by mostEnds. */
-    private static void fetch(Bonehall hall, int bone) {
-        for (int player = 0; player < 4; player++) {
+    private static void fetch(Bonehall hall, int[] owners, int bone) {
+        for (int player = 0; player < 4 && owners[bone] < 0; player++) {
             int lowest = hall.handAt(player, 0);
-            boolean isHeld = Scene.holds(hall, 0, bone) || Scene.holds(hall, 1, bone) || Scene.holds(hall, 2, bone)
-                    || Scene.holds(hall, 3, bone);
-            if (!isHeld && hall.half(lowest, true) - hall.half(lowest, false) > 1) {
+            if (hall.half(lowest, true) - hall.half(lowest, false) > 1) {
                 Check.due("given", lowest, hall.give(player, bone));
+                owners[lowest] = -1;
+                owners[bone] = player;
             }
         }
     }

@@ -105,12 +105,9 @@ public final class MeasureEdgeTest {
         hall.play(hall.handAt(hall.turn(), 3), 0);
         hall.pass();
         BigInteger sum = BigInteger.valueOf(7);
+        int[] owners = Scene.owners(hall, 55, 4);
         for (int bone = 0; bone < 55; bone++) {
-            int place = bone == hall.laidAt(0) ? 9 : 0;
-            for (int player = 0; player < 4; player++) {
-                place = Scene.holds(hall, player, bone) ? player + 1 : place;
-            }
-            sum = step(sum, place);
+            sum = step(sum, bone == hall.laidAt(0) ? 9 : owners[bone] + 1);
         }
         for (int end = 0; end < hall.ends(); end++) {
             sum = step(sum, hall.endAt(end));
@@ -128,12 +125,12 @@ public final class MeasureEdgeTest {
 
     private static void soundAllTheTime() {
         Check.part("promise 43: 'Returns whether all is sound', after each call of many rounds");
-        for (int seed = 0; seed < 40; seed++) {
+        for (int seed = 0; seed < 120; seed++) {
             String rules = new String[] {"", "d", "dr", "xd", "sr", "xdr"}[seed % 6];
             Bonehall hall = Scene.begun(rules, 3 + seed % 4, 2 + seed % 3, 2);
             Check.due("begun", true, hall.isSound());
             hall.deal(seed);
-            for (int step = 0; step < 60 && isGoing(hall); step++) {
+            for (int step = 0; step < 20 && isGoing(hall); step++) {
                 Check.due("sound by " + rules, true, hall.isSound());
                 step(hall, seed + step);
             }

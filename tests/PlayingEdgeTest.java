@@ -173,26 +173,31 @@ public final class PlayingEdgeTest {
         Check.due("a bone was played", before + 1, hall.laid());
     }
 
-    /** 33 is laid; 0 passes freely, 1 has 00 and 11 and draws 22, 01 and 02 of the six, then 1 passes too. */
+    /** 33 is laid; 1 passes falsely with 03, then 0 draws 22 01 02 12 to its 00, and passes. */
     private static void drawsBetween() {
         Check.part("promise 23: 'draws between not counted'");
         Bonehall hall = Scene.begun("dr", 3, 2, 2);
-        hall.deal(Scene.seedForYard(new int[] {7, 1, 2, 5}, 3, new int[] {8, 9}, new int[] {0, 4}));
+        hall.deal(Scene.seedForYard(new int[] {7, 1, 2, 5}, 3, new int[] {0, 9}, new int[] {3, 4}));
         hall.play(9, 0);
+        Check.due("1 passes", 0, hall.pass());
         for (int times = 0; times < 4; times++) {
+            Check.refuses("0 could draw", UNSUPPORTED, hall, hall::pass);
             hall.draw();
         }
-        Check.due("1 passes after draws", 0, hall.pass());
         Check.due("0 passes", -1, hall.pass());
+        Check.refuses("it is over", STATE, hall, hall::turn);
+        Check.part("promise 23: a play after draws begins anew");
         Bonehall other = Scene.begun("dr", 3, 2, 2);
-        other.deal(Scene.seedForYard(new int[] {7, 1, 2, 6}, 3, new int[] {8, 9}, new int[] {0, 4}));
+        other.deal(Scene.seedForYard(new int[] {7, 1, 2, 6}, 3, new int[] {0, 9}, new int[] {3, 4}));
         other.play(9, 0);
+        Check.due("1 passes", 0, other.pass());
         for (int times = 0; times < 4; times++) {
             other.draw();
         }
         Check.due("13 is played", 0, other.play(6, 0));
-        Check.due("0 passes, though 23 fits", 1, other.pass());
-        Check.due("1 plays 01", 0, other.play(1, 1));
+        Check.due("1 passes, though 11 fits", 0, other.pass());
+        Check.due("0 plays 01", 0, other.play(1, 1));
+        Check.due("and it goes on", 1, other.turn());
     }
 
     private static void refusedPassesDoNotCount() {

@@ -101,6 +101,18 @@ final class Scene {
         return false;
     }
 
+    /** Where each bone is: 0 and more the player, -1 the boneyard or the layout. */
+    static int[] owners(Bonehall hall, int bones, int players) {
+        int[] owners = new int[bones];
+        Arrays.fill(owners, -1);
+        for (int player = 0; player < players; player++) {
+            for (int index = hall.inHand(player) - 1; index >= 0; index--) {
+                owners[hall.handAt(player, index)] = player;
+            }
+        }
+        return owners;
+    }
+
     /** The values of the open ends, as digits. */
     static String ends(Bonehall hall) {
         StringBuilder text = new StringBuilder();

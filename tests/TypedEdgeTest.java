@@ -250,8 +250,8 @@ public final class TypedEdgeTest {
 
     private static void noSuchBoneInATrick() {
         Check.part("promise 38: 'if there is no such bone, for any', before all else");
-        Bonehall hall = Scene.begun("", 3, 2, 2);
         for (int place = 0; place < 4; place++) {
+            Bonehall hall = Scene.begun("", 3, 2, 2);
             for (int bad : new int[] {-1, 10, Integer.MIN_VALUE, Integer.MAX_VALUE}) {
                 int[] four = {0, 1, 2, 3};
                 four[place] = bad;
