@@ -2,10 +2,7 @@ import java.util.ArrayList;
 import java.util.List;
 
 /** The edges that the term Endings and the promises 31 to 33 name, a sentence a test. */
-public final class EndingEdgeTest {
-    private static final Class<IllegalStateException> STATE = IllegalStateException.class;
-    private static final Class<UnsupportedOperationException> UNSUPPORTED = UnsupportedOperationException.class;
-
+public final class EndingEdgeTest implements Refusals {
     public static void main(String[] args) {
         eachAskedFirst();
         twoSides();
@@ -144,22 +141,11 @@ public final class EndingEdgeTest {
                 Check.due("it is solved", hall.bestBone() < 0, !hall.canPlay(hall.turn()));
                 isSolved = true;
             }
-            playOrPass(hall);
-        }
-        Check.due("eight were reached", true, isSolved);
-    }
-
-    private static void playOrPass(Bonehall hall) {
-        int player = hall.turn();
-        for (int index = 0; index < hall.inHand(player); index++) {
-            for (int end = 0; end < Math.max(1, hall.ends()); end++) {
-                if (hall.laid() == 0 || hall.fits(hall.handAt(player, index), end)) {
-                    hall.play(hall.handAt(player, index), end);
-                    return;
-                }
+            if (!Scene.playLowest(hall)) {
+                hall.pass();
             }
         }
-        hall.pass();
+        Check.due("eight were reached", true, isSolved);
     }
 
     private static void belowNought() {
@@ -299,11 +285,7 @@ public final class EndingEdgeTest {
         }
 
         boolean isGoing() {
-            try {
-                return hall().turn() >= 0;
-            } catch (IllegalStateException e) {
-                return false;
-            }
+            return Scene.isGoing(hall());
         }
 
         /** All ways to go on, by rising bones and ends; a pass alone if there is none. */

@@ -1,11 +1,5 @@
 /** Promises 29 to 33: deals by a player's eye, and endings. */
-public final class EyeTest {
-    private static final Class<IllegalArgumentException> ILLEGAL = IllegalArgumentException.class;
-    private static final Class<IllegalStateException> STATE = IllegalStateException.class;
-    private static final Class<IndexOutOfBoundsException> BOUNDS = IndexOutOfBoundsException.class;
-    private static final Class<UnsupportedOperationException> UNSUPPORTED = UnsupportedOperationException.class;
-    private static final Class<ArithmeticException> ARITHMETIC = ArithmeticException.class;
-
+public final class EyeTest implements Refusals {
     public static void main(String[] args) {
         deals();
         dealsThatWrap();

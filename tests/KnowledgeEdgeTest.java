@@ -2,13 +2,7 @@ import java.util.ArrayList;
 import java.util.List;
 
 /** The edges that the term What a pass tells and the promises 27 to 30 name, a sentence a test. */
-public final class KnowledgeEdgeTest {
-    private static final Class<IllegalArgumentException> ILLEGAL = IllegalArgumentException.class;
-    private static final Class<IllegalStateException> STATE = IllegalStateException.class;
-    private static final Class<IndexOutOfBoundsException> BOUNDS = IndexOutOfBoundsException.class;
-    private static final Class<UnsupportedOperationException> UNSUPPORTED = UnsupportedOperationException.class;
-    private static final Class<ArithmeticException> ARITHMETIC = ArithmeticException.class;
-
+public final class KnowledgeEdgeTest implements Refusals {
     /** The bit of each value of the bones 00 01 02 03 11 12 13 22 23 33. */
     private static final int[] VALUES = {1, 3, 5, 9, 2, 6, 10, 4, 12, 8};
 
@@ -369,10 +363,10 @@ public final class KnowledgeEdgeTest {
             int players = 2 + seed % 3;
             Bonehall hall = Scene.begun(seed % 2 == 0 ? "r" : "dr", 3, players, players == 4 ? 2 : 3);
             hall.deal(seed * 7919);
-            for (int step = 0; step < 3 + seed % 7 && isGoing(hall); step++) {
+            for (int step = 0; step < 3 + seed % 7 && Scene.isGoing(hall); step++) {
                 step(hall, seed + step);
             }
-            if (isGoing(hall)) {
+            if (Scene.isGoing(hall)) {
                 Seen seen = new Seen(hall, players);
                 for (int player = 0; player < players; player++) {
                     restricted += compareDeals(hall, seen, player);
@@ -382,29 +376,9 @@ public final class KnowledgeEdgeTest {
         Check.due("some are restricted", true, restricted > 50);
     }
 
-    private static boolean isGoing(Bonehall hall) {
-        try {
-            return hall.turn() >= 0;
-        } catch (IllegalStateException e) {
-            return false;
-        }
-    }
-
     private static void step(Bonehall hall, int dice) {
-        int player = hall.turn();
-        for (int index = 0; index < hall.inHand(player) && dice % 3 != 0; index++) {
-            int bone = hall.handAt(player, index);
-            for (int end = 0; end < Math.max(1, hall.ends()); end++) {
-                if (hall.laid() == 0 || hall.fits(bone, end)) {
-                    hall.play(bone, end);
-                    return;
-                }
-            }
-        }
-        try {
-            hall.pass();
-        } catch (UnsupportedOperationException e) {
-            hall.draw();
+        if (dice % 3 == 0 || !Scene.playLowest(hall)) {
+            Scene.passOrDraw(hall);
         }
     }
 

@@ -1,14 +1,8 @@
-import java.util.NoSuchElementException;
-
 /**
  * The edges that the term The layout and the promises 14 to 20 name, a sentence a test. By the rule 'r' bones are laid
  * in any wanted order, as those who do not hold the next one pass.
  */
-public final class LayoutEdgeTest {
-    private static final Class<IndexOutOfBoundsException> BOUNDS = IndexOutOfBoundsException.class;
-    private static final Class<UnsupportedOperationException> UNSUPPORTED = UnsupportedOperationException.class;
-    private static final Class<NoSuchElementException> NONE = NoSuchElementException.class;
-
+public final class LayoutEdgeTest implements Refusals {
     public static void main(String[] args) {
         nothingLaid();
         firstBoneMayBeAny();

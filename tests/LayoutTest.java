@@ -1,10 +1,5 @@
-import java.util.NoSuchElementException;
-
 /** Promises 14 to 20: what is laid, the open ends, their sum, and what fits. */
-public final class LayoutTest {
-    private static final Class<IllegalStateException> STATE = IllegalStateException.class;
-    private static final Class<IndexOutOfBoundsException> BOUNDS = IndexOutOfBoundsException.class;
-    private static final Class<NoSuchElementException> NONE = NoSuchElementException.class;
+public final class LayoutTest implements Refusals {
     private static final int[] FIRST = {1, 4, 6, 7};
     private static final int[] SECOND = {2, 3, 5, 8};
 

@@ -1,13 +1,5 @@
-import java.util.NoSuchElementException;
-
 /** Promises 1 to 13: rules, matches, deals, bones, hands and the boneyard. */
-public final class MatchTest {
-    private static final Class<IllegalArgumentException> ILLEGAL = IllegalArgumentException.class;
-    private static final Class<IllegalStateException> STATE = IllegalStateException.class;
-    private static final Class<IndexOutOfBoundsException> BOUNDS = IndexOutOfBoundsException.class;
-    private static final Class<UnsupportedOperationException> UNSUPPORTED = UnsupportedOperationException.class;
-    private static final Class<NoSuchElementException> NONE = NoSuchElementException.class;
-
+public final class MatchTest implements Refusals {
     public static void main(String[] args) {
         newObject();
         rule();
@@ -143,7 +135,7 @@ public final class MatchTest {
             hall.deal(seed);
             int[] row = Scene.shuffled(28, seed);
             for (int place = 0; place < 21; place++) {
-                Check.due("place " + place, true, holds(hall, place / 7, row[place]));
+                Check.due("place " + place, true, Scene.holds(hall, place / 7, row[place]));
             }
             Check.due("yard", 7, hall.yard());
             Check.due("hand", 7, hall.inHand(2));
@@ -165,15 +157,6 @@ public final class MatchTest {
         Bonehall hall = Scene.begun("", 3, 2, 3);
         hall.deal(seed);
         return hall;
-    }
-
-    private static boolean holds(Bonehall hall, int player, int bone) {
-        for (int index = 0; index < hall.inHand(player); index++) {
-            if (hall.handAt(player, index) == bone) {
-                return true;
-            }
-        }
-        return false;
     }
 
     private static void firstBeginner() {

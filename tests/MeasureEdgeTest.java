@@ -1,9 +1,7 @@
 import java.math.BigInteger;
 
 /** The edges that the promises 39 to 43 name, a sentence a test. */
-public final class MeasureEdgeTest {
-    private static final Class<ArithmeticException> ARITHMETIC = ArithmeticException.class;
-
+public final class MeasureEdgeTest implements Refusals {
     public static void main(String[] args) {
         rounds();
         shareOfEachSet();
@@ -130,7 +128,7 @@ public final class MeasureEdgeTest {
             Bonehall hall = Scene.begun(rules, 3 + seed % 4, 2 + seed % 3, 2);
             Check.due("begun", true, hall.isSound());
             hall.deal(seed);
-            for (int step = 0; step < 20 && isGoing(hall); step++) {
+            for (int step = 0; step < 12 && Scene.isGoing(hall); step++) {
                 Check.due("sound by " + rules, true, hall.isSound());
                 step(hall, seed + step);
             }
@@ -140,37 +138,11 @@ public final class MeasureEdgeTest {
         }
     }
 
-    private static boolean isGoing(Bonehall hall) {
-        try {
-            return hall.turn() >= 0;
-        } catch (IllegalStateException e) {
-            return false;
-        }
-    }
-
-    /** A false pass now and then, otherwise the first bone that fits, a draw or a pass. */
+    /** A false pass now and then, otherwise the lowest bone that fits, a draw or a pass. */
     private static void step(Bonehall hall, int dice) {
-        int player = hall.turn();
-        for (int index = 0; index < hall.inHand(player) && dice % 4 != 0; index++) {
-            for (int end = 0; end < Math.max(1, hall.ends()); end++) {
-                if (hall.laid() == 0 || hall.fits(hall.handAt(player, index), end)) {
-                    hall.play(hall.handAt(player, index), end);
-                    return;
-                }
-            }
-        }
-        try {
-            hall.pass();
-        } catch (UnsupportedOperationException e) {
-            drawOrPlay(hall, player);
-        }
-    }
-
-    private static void drawOrPlay(Bonehall hall, int player) {
-        if (hall.canPlay(player)) {
-            step(hall, 1);
-        } else {
-            hall.draw();
+        boolean isDone = dice % 4 == 0 && Scene.passOrDraw(hall);
+        if (!isDone && !Scene.playLowest(hall)) {
+            Scene.passOrDraw(hall);
         }
     }
 

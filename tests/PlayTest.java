@@ -1,13 +1,5 @@
-import java.util.NoSuchElementException;
-
 /** Promises 21 to 28: plays, draws, passes, points, and what passes tell. */
-public final class PlayTest {
-    private static final Class<IllegalArgumentException> ILLEGAL = IllegalArgumentException.class;
-    private static final Class<IllegalStateException> STATE = IllegalStateException.class;
-    private static final Class<IndexOutOfBoundsException> BOUNDS = IndexOutOfBoundsException.class;
-    private static final Class<UnsupportedOperationException> UNSUPPORTED = UnsupportedOperationException.class;
-    private static final Class<NoSuchElementException> NONE = NoSuchElementException.class;
-
+public final class PlayTest implements Refusals {
     public static void main(String[] args) {
         play();
         pointsOfEnds();

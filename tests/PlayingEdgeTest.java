@@ -1,13 +1,5 @@
-import java.util.NoSuchElementException;
-
 /** The edges that the terms Playing and What a pass tells and the promises 21 to 28 name, a sentence a test. */
-public final class PlayingEdgeTest {
-    private static final Class<IllegalArgumentException> ILLEGAL = IllegalArgumentException.class;
-    private static final Class<IllegalStateException> STATE = IllegalStateException.class;
-    private static final Class<IndexOutOfBoundsException> BOUNDS = IndexOutOfBoundsException.class;
-    private static final Class<UnsupportedOperationException> UNSUPPORTED = UnsupportedOperationException.class;
-    private static final Class<NoSuchElementException> NONE = NoSuchElementException.class;
-
+public final class PlayingEdgeTest implements Refusals {
     public static void main(String[] args) {
         whoCanPlayHasTo();
         whoCannotDraws();
@@ -145,7 +137,7 @@ public final class PlayingEdgeTest {
             for (int times = 1; times < players; times++) {
                 Check.due("pass " + times, (first + 1 + times) % players, hall.pass());
             }
-            playAny(hall);
+            Check.due("a play", true, Scene.playLowest(hall));
             for (int times = 1; times < players; times++) {
                 Check.due("pass " + times + " after a play", (first + 1 + times) % players, hall.pass());
             }
@@ -158,19 +150,6 @@ public final class PlayingEdgeTest {
             }
             Check.due("the last one", -1, hall.pass());
         }
-    }
-
-    private static void playAny(Bonehall hall) {
-        int player = hall.turn();
-        int before = hall.laid();
-        for (int index = 0; index < hall.inHand(player) && hall.laid() == before; index++) {
-            for (int end = 0; end < hall.ends() && hall.laid() == before; end++) {
-                if (hall.fits(hall.handAt(player, index), end)) {
-                    hall.play(hall.handAt(player, index), end);
-                }
-            }
-        }
-        Check.due("a bone was played", before + 1, hall.laid());
     }
 
     /** 33 is laid; 1 passes falsely with 03, then 0 draws 22 01 02 12 to its 00, and passes. */
@@ -497,6 +476,5 @@ public final class PlayingEdgeTest {
             hall.pass();
         }
         Check.due("'-1 for none'", -1, hall.winner());
-        Check.refuses("no such value in no state", ILLEGAL, hall, () -> hall.isVoid(0, 4));
     }
 }

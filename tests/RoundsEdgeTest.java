@@ -1,13 +1,5 @@
-import java.util.NoSuchElementException;
-
 /** The edges that the term Rounds and the promises 1 to 13 name, a sentence a test. */
-public final class RoundsEdgeTest {
-    private static final Class<IllegalArgumentException> ILLEGAL = IllegalArgumentException.class;
-    private static final Class<IllegalStateException> STATE = IllegalStateException.class;
-    private static final Class<IndexOutOfBoundsException> BOUNDS = IndexOutOfBoundsException.class;
-    private static final Class<UnsupportedOperationException> UNSUPPORTED = UnsupportedOperationException.class;
-    private static final Class<NoSuchElementException> NONE = NoSuchElementException.class;
-
+public final class RoundsEdgeTest implements Refusals {
     /** Pairs of a set to three: 1, 5, 10, 9, 3 and 3 pips. */
     private static final int[] ONE_PIP = {0, 1};
     private static final int[] FIVE_PIPS = {2, 3};

@@ -101,6 +101,49 @@ final class Scene {
         return false;
     }
 
+    static boolean isGoing(Bonehall hall) {
+        try {
+            return hall.turn() >= 0;
+        } catch (IllegalStateException e) {
+            return false;
+        }
+    }
+
+    /** Plays the lowest bone that fits, at the first end that it fits; false if there is none. */
+    static boolean playLowest(Bonehall hall) {
+        int player = hall.turn();
+        boolean isFirst = hall.laid() == 0;
+        if (!hall.canPlay(player)) {
+            return false;
+        }
+        int held = hall.inHand(player);
+        int ends = Math.max(1, hall.ends());
+        for (int index = 0; index < held; index++) {
+            int bone = hall.handAt(player, index);
+            for (int end = 0; end < ends; end++) {
+                if (isFirst || hall.fits(bone, end)) {
+                    hall.play(bone, end);
+                    return true;
+                }
+            }
+        }
+        return false;
+    }
+
+    /** Passes, or draws if that comes before; tells whether one of both could be done. */
+    static boolean passOrDraw(Bonehall hall) {
+        try {
+            hall.pass();
+            return true;
+        } catch (UnsupportedOperationException e) {
+            if (hall.canPlay(hall.turn())) {
+                return false;
+            }
+            hall.draw();
+            return true;
+        }
+    }
+
     /** Where each bone is: 0 and more the player, -1 the boneyard or the layout. */
     static int[] owners(Bonehall hall, int bones, int players) {
         int[] owners = new int[bones];

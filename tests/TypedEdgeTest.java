@@ -2,12 +2,7 @@ import java.util.ArrayList;
 import java.util.List;
 
 /** The edges that the term Rows, rings, tricks and the promises 34 to 38 name, a sentence a test. */
-public final class TypedEdgeTest {
-    private static final Class<IllegalArgumentException> ILLEGAL = IllegalArgumentException.class;
-    private static final Class<IllegalStateException> STATE = IllegalStateException.class;
-    private static final Class<IndexOutOfBoundsException> BOUNDS = IndexOutOfBoundsException.class;
-    private static final Class<UnsupportedOperationException> UNSUPPORTED = UnsupportedOperationException.class;
-
+public final class TypedEdgeTest implements Refusals {
     public static void main(String[] args) {
         nothingTyped();
         nineTyped();

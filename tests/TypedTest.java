@@ -1,10 +1,5 @@
 /** Promises 34 to 38: typed bones, their rows and rings, and tricks. */
-public final class TypedTest {
-    private static final Class<IllegalArgumentException> ILLEGAL = IllegalArgumentException.class;
-    private static final Class<IllegalStateException> STATE = IllegalStateException.class;
-    private static final Class<IndexOutOfBoundsException> BOUNDS = IndexOutOfBoundsException.class;
-    private static final Class<UnsupportedOperationException> UNSUPPORTED = UnsupportedOperationException.class;
-
+public final class TypedTest implements Refusals {
     public static void main(String[] args) {
         type();
         wipe();
