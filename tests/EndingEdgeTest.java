@@ -228,7 +228,8 @@ public final class EndingEdgeTest implements Refusals {
         int asked = 0;
         for (int seed = 0; seed < 60; seed++) {
             boolean isPartners = seed % 3 == 0;
-            Replay replay = new Replay(isPartners ? "p" : "", 3 + seed % 2, isPartners ? 4 : 2, isPartners ? 2 : 3, seed * 31);
+            int highest = 3 + seed % 2;
+            Replay replay = isPartners ? new Replay("p", highest, 4, 2, seed * 31) : new Replay("", highest, 2, 3, seed * 31);
             Bonehall hall = replay.hall();
             while (replay.isGoing()) {
                 if (hall.laid() > 0) {

@@ -95,7 +95,7 @@ public final class FaceTest {
         Check.due("a package line", false, text.startsWith("package") || text.contains("\npackage"));
         int lines = 0;
         for (String line : text.split("\n")) {
-            lines = line.startsWith("    }") || line.startsWith("        }") && !line.startsWith("        } ") ? 0 : lines + 1;
+            lines = line.matches(" {4}}.*| {8}}([^ ].*)?") ? 0 : lines + 1;
             Check.due("a method is short: " + line, true, lines <= 75);
             if (line.contains("throw ")) {
                 Check.due("a throw by rule 6: " + line, true,

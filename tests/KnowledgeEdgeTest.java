@@ -123,7 +123,7 @@ public final class KnowledgeEdgeTest implements Refusals {
         int[] others = {5, 7, 12, 13, 14};
         int[] own = {2, 3, 4, 9, 10};
         for (int drawer = 0; drawer < 2; drawer++) {
-            Check.part("promise 27: 'a draw of that player makes all that is known of the player so forgotten', " + drawer);
+            Check.part("promise 27: 'a draw of that player makes all that is known .. so forgotten', " + drawer);
             Bonehall hall = Scene.dealt("dr", 4, drawer == 0 ? own : others, drawer == 0 ? others : own);
             hall.play(14, 0);
             hall.play(4, 0);
@@ -199,7 +199,8 @@ public final class KnowledgeEdgeTest implements Refusals {
     }
 
     private static void falsePassOf(int meant, String rules, int[][] hands) {
-        Check.part("promise 28: 'the false pass is found: each other side gets 20', " + meant + " of " + hands.length + rules);
+        String whose = meant + " of " + hands.length + rules;
+        Check.part("promise 28: 'the false pass is found: each other side gets 20', " + whose);
         Bonehall hall = Scene.dealt(rules, 3, hands);
         hall.play(9, 0);
         hall.pass();

@@ -6,7 +6,7 @@ import java.util.List;
 import java.util.Map;
 import java.util.Random;
 
-/** Random runs of calls, always the same ones, on Bonehall and on the model; the argument is how many runs there are. */
+/** Random runs of calls, always the same ones, on Bonehall and on the model; the argument is how many there are. */
 public final class ModelTest {
     private static final int MOST_CALLS = 512;
     private static final String[] ASKED = {"inHand", "handAt", "pips", "yard", "turn", "laid", "laidAt", "ends", "endAt",

@@ -212,6 +212,10 @@ public final class TypedEdgeTest implements Refusals {
         for (int place = 0; place < 4; place++) {
             four[place] = hall.bone(bones.charAt(3 * place) - '0', bones.charAt(3 * place + 1) - '0');
         }
+        return trickOf(hall, trump, four);
+    }
+
+    private static int trickOf(Bonehall hall, int trump, int[] four) {
         return hall.trick(trump, four[0], four[1], four[2], four[3]);
     }
 
@@ -237,8 +241,8 @@ public final class TypedEdgeTest implements Refusals {
             for (int two = one + 1; two < 4; two++) {
                 int[] four = {0, 1, 2, 3};
                 four[two] = four[one];
-                Check.refuses(one + " and " + two, ILLEGAL, hall, () -> hall.trick(0, four[0], four[1], four[2], four[3]));
-                Check.refuses(one + " and " + two, ILLEGAL, hall, () -> hall.trick(-1, four[0], four[1], four[2], four[3]));
+                Check.refuses(one + " and " + two, ILLEGAL, hall, () -> trickOf(hall, 0, four));
+                Check.refuses(one + " and " + two, ILLEGAL, hall, () -> trickOf(hall, -1, four));
             }
         }
     }
@@ -250,10 +254,10 @@ public final class TypedEdgeTest implements Refusals {
             for (int bad : new int[] {-1, 10, Integer.MIN_VALUE, Integer.MAX_VALUE}) {
                 int[] four = {0, 1, 2, 3};
                 four[place] = bad;
-                Check.refuses("at " + place, BOUNDS, hall, () -> hall.trick(0, four[0], four[1], four[2], four[3]));
-                Check.refuses("no trump, at " + place, BOUNDS, hall, () -> hall.trick(4, four[0], four[1], four[2], four[3]));
+                Check.refuses("at " + place, BOUNDS, hall, () -> trickOf(hall, 0, four));
+                Check.refuses("no trump, at " + place, BOUNDS, hall, () -> trickOf(hall, 4, four));
                 four[place == 0 ? 1 : 0] = bad;
-                Check.refuses("the same twice", BOUNDS, hall, () -> hall.trick(0, four[0], four[1], four[2], four[3]));
+                Check.refuses("the same twice", BOUNDS, hall, () -> trickOf(hall, 0, four));
             }
         }
         Bonehall none = new Bonehall();
@@ -272,11 +276,11 @@ public final class TypedEdgeTest implements Refusals {
         Check.part("promise 38: 'then that with the greater other half'");
         Check.due("36 beats 34 and 03", 2, win(6, 3, "03 34 36 35"));
         Check.due("03 beats nothing of it", 1, win(6, 3, "03 13 66 56"));
-        Check.due("a trump as the first by its lesser half leaves its greater one without a kind", 0, win(6, 1, "16 66 56 46"));
+        Check.due("16 as the first one makes no kind of the 6", 0, win(6, 1, "16 66 56 46"));
     }
 
     private static void ofTheFirstKind() {
-        Check.part("promise 38: 'otherwise of its greater half', 'those of the first bone's kind, or with a half of this'");
+        Check.part("promise 38: 'otherwise of its greater half', 'or with a half of this'");
         Check.due("its greater half", 2, win(6, -1, "25 22 35 24"));
         Check.due("with a half of this, which is the lesser one", 1, win(6, -1, "25 56 22 24"));
         Check.due("without a trump", 1, win(6, -1, "01 11 00 02"));
