@@ -1,7 +1,10 @@
 import java.util.function.Supplier;
 
-/** Counts and prints what is not as due, and tells the exit code. */
-final class Check {
+/**
+ * Counts and prints what is not as due, and tells the exit code. It is public for the lines of README.md, which ReadmeTest
+ * loads apart from the tests.
+ */
+public final class Check {
     private static int wrong = 0;
     private static int asked = 0;
     private static String part = "";
@@ -13,7 +16,7 @@ final class Check {
         part = name;
     }
 
-    static void due(String what, Object want, Object got) {
+    public static void due(String what, Object want, Object got) {
         asked++;
         if (!want.equals(got)) {
             wrong++;

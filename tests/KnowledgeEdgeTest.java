@@ -21,6 +21,7 @@ public final class KnowledgeEdgeTest implements Refusals {
         foundByTheLastBone();
         foundInTheMatch();
         dealsAtFirst();
+        dealsOfAMatchWithFewer();
         dealsOfFour();
         justOneDeal();
         dealsThatAreCounted();
@@ -320,6 +321,22 @@ public final class KnowledgeEdgeTest implements Refusals {
                 Check.due("deals of " + four[1] + " with " + four[2], four[3], hall.deals(player));
             }
         }
+    }
+
+    private static void dealsOfAMatchWithFewer() {
+        Check.part("promise 29: those who were in an earlier match have no hands in this one");
+        Bonehall hall = Scene.begun("", 3, 4, 2);
+        hall.deal(11);
+        Check.due("of four", 2520L, hall.deals(0));
+        hall.close();
+        hall.begin(3, 3, 2);
+        hall.deal(11);
+        Check.due("of three", 420L, hall.deals(0));
+        hall.close();
+        hall.begin(3, 2, 2);
+        hall.deal(11);
+        Check.due("of two", 28L, hall.deals(0));
+        Check.due("one of four", 0.25, hall.chance(0, 1, hall.handAt(1, 0)));
     }
 
     /** 01 33, 02 12, 11 22 and 00 23; 03 and 13 are in the boneyard; 33 is laid, and 1 and 2 pass. */

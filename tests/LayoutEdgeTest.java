@@ -23,6 +23,7 @@ public final class LayoutEdgeTest implements Refusals {
         sumOfALaterSpinner();
         sumOfTwoDoubles();
         sumIsNewInEachRound();
+        oldEndsAndDoublesAreGone();
         canPlayByTheBoneNought();
         laidInTheirOrder();
         Check.end("LayoutEdgeTest");
@@ -328,6 +329,28 @@ public final class LayoutEdgeTest implements Refusals {
         due(hall, "33", 6);
         lay(hall, "03", 0);
         due(hall, "30", 6);
+    }
+
+    private static void oldEndsAndDoublesAreGone() {
+        Check.part("promises 16 to 18: ends and doubles of the last round do not count in the next one");
+        Bonehall hall = whole("x");
+        lay(hall, "33", 0);
+        lay(hall, "23", 0);
+        lay(hall, "22", 3);
+        lay(hall, "12", 3);
+        due(hall, "333221", 7);
+        hall.pass();
+        hall.pass();
+        hall.deal(2);
+        due(hall, "", 0);
+        lay(hall, "01", 0);
+        due(hall, "01", 1);
+        lay(hall, "13", 1);
+        due(hall, "03", 3);
+        lay(hall, "23", 1);
+        due(hall, "02", 2);
+        lay(hall, "02", 1);
+        due(hall, "00", 0);
     }
 
     private static void canPlayByTheBoneNought() {
